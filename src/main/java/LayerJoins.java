@@ -324,10 +324,14 @@ public final class LayerJoins {
     }
 
     public int read() {
-        int answer = reader.takeAll(borings);
+        int answer = reader.stageBorings(borings);
         if (answer > 0) {
             upToDate = false;
+            borings.keepStaged();
+        } else {
+            borings.dropStaged();
         }
+        reader.clear();
         return answer;
     }
 
@@ -1157,20 +1161,14 @@ public final class LayerJoins {
             return true;
         }
 
-        int takeAll(Borings told) {
-            wordEnd = 0;
-            wordNumber = -1;
-            int answer = takeBorings(told);
-            if (answer > 0) {
-                told.keepStaged();
-            } else {
-                told.dropStaged();
-            }
+        void clear() {
             length = 0;
-            return answer;
         }
 
-        private int takeBorings(Borings told) {
+        /** How many borings are staged; below 0, by the document's count, if the text is none of borings. */
+        int stageBorings(Borings told) {
+            wordEnd = 0;
+            wordNumber = -1;
             for (int taken = 0; taken <= MOST_BORINGS; taken++) {
                 moveToNextWord();
                 if (wordStart >= length) {

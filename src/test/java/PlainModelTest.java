@@ -6,6 +6,8 @@ import java.util.Random;
 public final class PlainModelTest {
     private static final int RUNS = 6000;
     private static final int CALLS = 300;
+    private static final int CROWDS = 300;
+    private static final int DEEP_RUNS = 12;
 
     private final Random chance;
     private final int reach;
@@ -25,9 +27,15 @@ public final class PlainModelTest {
 
     public static void main(String[] args) {
         long answers = 0;
-        for (long seed = 1; seed <= RUNS; seed++) {
+        for (long seed = 1; seed <= RUNS + CROWDS + DEEP_RUNS; seed++) {
             PlainModelTest test = new PlainModelTest(seed);
-            test.go();
+            if (seed <= RUNS) {
+                test.mixed();
+            } else if (seed <= RUNS + CROWDS) {
+                test.crowd();
+            } else {
+                test.deep();
+            }
             answers += test.told.size();
             if (test.wrong) {
                 System.out.println("seed " + seed + ":");
@@ -36,6 +44,59 @@ public final class PlainModelTest {
             }
         }
         System.out.println("PlainModelTest: " + answers + " answers are those of the plain model");
+    }
+
+    /** Sixteen borings, thirteen of them inside of three: as many edges and triangles as there can be. */
+    private void crowd() {
+        call("boring", -1000, -1000, 7);
+        call("boring", 1000, -999, 8);
+        call("boring", 3, 1000, 9);
+        while (borings() < 16) {
+            call("boring", from(-200, 200), from(-500, 0), from(-50, 50));
+        }
+        for (int b = 0; b < 16; b++) {
+            tellLayer(b);
+            tellLayer(b);
+        }
+        for (int k = 0; k < 2; k++) {
+            call("run");
+            for (int e = 0; e <= number("count", 3); e++) {
+                call("edge", e, 0);
+                call("edge", e, 1);
+                call("edge", e, 2);
+            }
+            for (int t = 0; t <= number("count", 5); t++) {
+                call("triangle", t, 0);
+                call("triangle", t, 1);
+                call("triangle", t, 2);
+            }
+            ask();
+            call("fault", from(-200, 0), from(-500, 0), from(0, 200), from(-500, 0));
+        }
+    }
+
+    /** Two borings with all the layers that there can be, of few kinds and thicknesses, so that many sums are the same. */
+    private void deep() {
+        call("boring", 0, 0, 0);
+        call("boring", 5, 0, 0);
+        int kinds = from(1, 4);
+        for (int k = 0; k < 12; k++) {
+            call("layer", 0, from(0, kinds), from(1, 4) * 50);
+            call("layer", 1, from(0, kinds), from(1, 4) * 50);
+        }
+        call("age", 1, from(0, 2));
+        call("run");
+        call("sum", 0, 1);
+        for (int k = 0; k <= 12; k++) {
+            call("match", 0, 1, k);
+            call("match", 1, 0, k);
+        }
+        for (int k = 0; k <= 24; k++) {
+            call("section", 0, 1, k, 0);
+            call("section", 0, 1, k, 1);
+            call("section", 1, 0, k, 0);
+            call("section", 1, 0, k, 1);
+        }
     }
 
     private void call(String name, int... numbers) {
@@ -78,7 +139,7 @@ public final class PlainModelTest {
         return near(0, borings() - 1);
     }
 
-    private void go() {
+    private void mixed() {
         int first = from(0, 10);
         for (int k = 0; k < first; k++) {
             tellBoring();
