@@ -4,7 +4,7 @@ import java.util.Arrays;
  * Borings joined to beds: a net of neighbours, the least matching of the layers of each two, beds, their
  * levels and volumes, water, later findings and texts of borings.
  *
- * <p>Every row is made in the constructor and used again, so that no call but one that throws makes objects.
+ * <p>Every row is made in the constructor and used again: beside exceptions, only the text written may still grow.
  */
 public final class LayerJoins {
     public static final int NONE = -1;
