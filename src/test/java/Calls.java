@@ -7,6 +7,7 @@ import java.util.Map;
 final class Calls {
     private final Object target;
     private final Map<String, Method> methods = new HashMap<>();
+    private int made = 0;
 
     Calls(Object target) {
         this.target = target;
@@ -27,6 +28,7 @@ final class Calls {
             given[k] = numbers[k];
         }
         try {
+            made++;
             method.setAccessible(true);
             Object got = method.invoke(target, given);
             return got instanceof Character c ? String.valueOf((int) c) : String.valueOf(got);
@@ -35,6 +37,11 @@ final class Calls {
         } catch (ReflectiveOperationException e) {
             return "no call: " + e;
         }
+    }
+
+    /** How many calls were made. */
+    int made() {
+        return made;
     }
 
     /** All of a text as units; true if each was taken. */

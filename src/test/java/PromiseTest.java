@@ -1,14 +1,5 @@
-import java.util.regex.Matcher;
-import java.util.regex.Pattern;
-
-/**
- * Each promise as runs of calls on a new object, a row a call: "sum(0, 1) -> 4". Beside the calls of the class
- * there are text "..." (each character a unit), written (all letters), and n * in front of a row, where # is the
- * number of the turn, from 0 on.
- */
+/** Each promise as runs of calls on a new object; the rows are told by Script. */
 public final class PromiseTest {
-    private static final Pattern ROW = Pattern.compile("(?:(\\d+) \\* )?(\\w+)(?:\\((.*?)\\)| \"(.*?)\")? -> (.*)");
-
     // Three borings around a corner, one with a lens between two layers that go through.
     private static final String CORNER = """
         boring(0, 0, 10) -> 0
@@ -27,9 +18,6 @@ public final class PromiseTest {
         16 * boring(#, 5, 0) -> #
         """;
 
-    private static int rows = 0;
-    private static int wrong = 0;
-
     public static void main(String[] args) {
         newObject();
         telling();
@@ -41,58 +29,11 @@ public final class PromiseTest {
         volumes();
         findings();
         texts();
-        System.out.println("PromiseTest: " + rows + " rows, " + wrong + " wrong");
-        if (wrong != 0) {
-            System.exit(1);
-        }
+        Script.end("PromiseTest");
     }
 
     private static void check(String promise, String... scripts) {
-        Calls calls = new Calls(new LayerJoins());
-        for (String script : scripts) {
-            for (String row : script.split("\n")) {
-                if (!row.isBlank()) {
-                    checkRow(promise, calls, row.strip());
-                }
-            }
-        }
-    }
-
-    private static void checkRow(String promise, Calls calls, String row) {
-        Matcher parts = ROW.matcher(row);
-        if (!parts.matches()) {
-            wrong++;
-            System.out.println("promise " + promise + ": not a row: " + row);
-            return;
-        }
-        int turns = parts.group(1) == null ? 1 : Integer.parseInt(parts.group(1));
-        for (int turn = 0; turn < turns; turn++) {
-            String due = parts.group(5).replace("#", "" + turn);
-            String got = got(calls, parts.group(2), parts.group(3), parts.group(4), turn);
-            rows++;
-            if (!got.equals(due)) {
-                wrong++;
-                System.out.println("promise " + promise + ": " + row + ", answered " + got);
-            }
-        }
-    }
-
-    private static String got(Calls calls, String name, String numbers, String text, int turn) {
-        if (name.equals("text")) {
-            return calls.tell(text.replace("|", "\n"));
-        }
-        if (name.equals("written")) {
-            return calls.written();
-        }
-        if (numbers == null || numbers.isBlank()) {
-            return calls.answer(name);
-        }
-        String[] words = numbers.replace("#", "" + turn).split(",");
-        int[] given = new int[words.length];
-        for (int k = 0; k < words.length; k++) {
-            given[k] = Integer.parseInt(words[k].strip());
-        }
-        return calls.answer(name, given);
+        Script.check("promise " + promise, scripts);
     }
 
     private static void newObject() {
@@ -831,7 +772,7 @@ public final class PromiseTest {
             unit(126) -> true
             read() -> -1
             """);
-        check("24: six hundred", """
+        Script.checkBeyondPromisedCalls("promise 24: six hundred", """
             600 * unit(32) -> true
             unit(32) -> false
             unit(10) -> false
@@ -875,7 +816,7 @@ public final class PromiseTest {
         }
         check("25: sixteen in one text", "text \"" + sixteen + "\" -> true", "read() -> 16", "count(0) -> 16");
         check("25: seventeen in one text", "text \"" + sixteen + "b\" -> true", "read() -> -81", "count(0) -> 0");
-        check("25: words up to the last unit", """
+        Script.checkBeyondPromisedCalls("promise 25: words up to the last unit", """
             599 * unit(32) -> true
             text "b" -> true
             read() -> -2
