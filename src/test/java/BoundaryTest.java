@@ -388,6 +388,19 @@ public final class BoundaryTest {
             bed(18, 1) -> 1
             bed(19, 3) -> 4
             """);
+        check(9, "The net: an edge of an earlier run() is none that was taken before", """
+            boring(0, 0, 0) -> 0
+            boring(10, 0, 0) -> 1
+            run() -> 0
+            edge(0, 0) -> 0
+            boring(5, 1, 0) -> 2
+            boring(5, -1, 0) -> 3
+            run() -> 0
+            count(3) -> 5
+            edge(0, 0) -> 2
+            edge(0, 1) -> 3
+            sum(0, 1) -> throws.IllegalArgumentException
+            """);
     }
 
     private static void edgesAndTriangles() {
@@ -475,6 +488,15 @@ public final class BoundaryTest {
             boring(0, 0, 0) -> 0
             crosses() -> throws.IllegalStateException
             run() -> 0
+            crosses() -> false
+            """);
+        check(16, "in some matching: an edge that is broken has none", """
+            boring(0, 0, 0) -> 0
+            boring(1, 0, 0) -> 1
+            12 * layer(0, 1, 5) -> #
+            12 * layer(1, 1, 5) -> #
+            fault(0, 0, 1, 0) -> true
+            run() -> 24
             crosses() -> false
             """);
     }

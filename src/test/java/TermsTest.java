@@ -809,6 +809,17 @@ public final class TermsTest {
             bedOf(0, 0) -> throws.IndexOutOfBoundsException
             at(0, 0, 0, 0) -> throws.IndexOutOfBoundsException
             """);
+        check("BEDS: beside a boring without layers", """
+            boring(0, 0, 0) -> 0
+            boring(1, 0, 0) -> 1
+            boring(0, 1, 0) -> 2
+            layer(1, 1, 5) -> 0
+            layer(2, 2, 5) -> 0
+            run() -> 2
+            bed(0, 2) -> 1
+            bed(0, 3) -> 1
+            bed(1, 3) -> 2
+            """);
         check("if one is matched with the other, or over others from pair to pair", """
             16 * boring(#, 0, #) -> #
             16 * layer(#, 2, 10) -> 0
@@ -1009,6 +1020,19 @@ public final class TermsTest {
             at(0, 0, 5, 1) -> 1
             at(0, 0, 3, 0) -> -1
             at(0, 0, 3, 1) -> 1
+            """);
+        check("a fraction in least terms: where nothing can be cut", """
+            boring(0, 0, 0) -> 0
+            boring(7, 2, 0) -> 1
+            boring(2, 9, 1) -> 2
+            3 * layer(#, 0, 5) -> 0
+            3 * water(#, 0, 0) -> true
+            water(2, 0, -1) -> true
+            run() -> 1
+            at(0, 3, 1, 0) -> 1
+            at(0, 3, 1, 1) -> 59
+            wet(0, 3, 1, 0) -> -1
+            wet(0, 3, 1, 1) -> 59
             """);
         check("0 and 0 for none", slope, """
             at(0, 1000, 1000, 0) -> 0
